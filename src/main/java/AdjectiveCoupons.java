@@ -1066,12 +1066,13 @@ public final class AdjectiveCoupons {
             int seen = 0;
             int adjectivesAhead = 0;
             boolean isFirstColour = true;
+            int next = kindAt(line, 0);
             for (int i = 0; i < line.length; i++) {
                 int word = line.wordAt(i);
-                int kind = kindAt(line, i);
+                int kind = next;
+                next = kindAt(line, i + 1);
                 if (isAdjective(kind)) {
-                    boolean isFree = isFreeByName(line, i) || (rules & TWICE) != 0 && isIn(seen, word);
-                    int price = isFree ? 0 : priceOfOne(kind, adjectivesAhead);
+                    int price = isFree(next, isIn(seen, word)) ? 0 : priceOfOne(kind, adjectivesAhead);
                     if (kind == COLOUR && price > 0) {
                         price -= letOff(kindOfOne, isFirstColour, price);
                         isFirstColour = false;
@@ -1086,8 +1087,8 @@ public final class AdjectiveCoupons {
             return sum;
         }
 
-        private boolean isFreeByName(Line line, int i) {
-            return (rules & NAMES) != 0 && kindAt(line, i + 1) == NAME;
+        private boolean isFree(int next, boolean wasAhead) {
+            return next == NAME && (rules & NAMES) != 0 || wasAhead && (rules & TWICE) != 0;
         }
 
         private int priceOfOne(int kind, int adjectivesAhead) {
@@ -1301,7 +1302,6 @@ public final class AdjectiveCoupons {
         /** People whose nets together are 0 settle among themselves with one payment fewer than they are. */
         int fewestPayments(State state, int people) {
             int all = (1 << people) - 1;
-            groups.set(0, 0);
             for (int some = 1; some <= all; some++) {
                 int mostGroups = 0;
                 int sum = 0;

@@ -72,7 +72,16 @@ public final class ForetoldTest {
         order(y, "110", 2, 0, "110");
         order(y, "1230", 6, 0, "1230");
         order(y, "12304", 5, 1, "10234");
+        order(y, "511040", 4, 1, "010154");
         AdjectiveCoupons z = C.told(REALM + ";names;swell");
+        Checks.lay(z, "104");
+        C.due("loophole() of 104, first", z.loophole(), 2);
+        Checks.lay(z, "4");
+        C.due("loophole() of 4", z.loophole(), 0);
+        Checks.lay(z, "1");
+        C.due("loophole() of 1", z.loophole(), NONE);
+        Checks.lay(z, "1244");
+        C.due("loophole() of 1244", z.loophole(), 2);
         order(z, "125304", 5, 4, "102354");
     }
 
@@ -114,6 +123,8 @@ public final class ForetoldTest {
         omission(y, "11011", 8, 0, 0);
         omission(y, "11_11", 7, 1, 1);
         omission(y, "11101", 8, 1, 1);
+        Checks.lay(y, "10");
+        y.cheapest(NONE);
         omission(y, "3_1133", 8, 1, 1);
         omission(y, "3_1133", 6, 1, 4);
     }
@@ -153,6 +164,9 @@ public final class ForetoldTest {
         AdjectiveCoupons y = new AdjectiveCoupons();
         filling(y, "_", 0, 0, "");
         filling(y, "", 0, 0, "");
+        AdjectiveCoupons z = C.told("name1;name1;name1;name1;name1;name1;name1;name1;name1;name1");
+        filling(z, "_0__", 0, 1000, "000");
+        filling(z, "0__", 0, 100, "00");
     }
 
     private static void holesByLaw() {
@@ -183,6 +197,15 @@ public final class ForetoldTest {
         C.due("burn() again", x.burn(), 0);
         C.due("drafted(0, 0, 0), burnt", x.drafted(0, 0, 0), UNKNOWN);
         C.due("page(99, 0), burnt", x.page(99, 0), 0);
+        Checks.draft(x, "10", "4");
+        C.due("page(99, 1)", x.page(99, 1), 3);
+        C.due("plan(0, 1)", x.plan(0, 1), 3);
+        C.due("burn(), two", x.burn(), 2);
+        C.due("page(99, 1), burnt", x.page(99, 1), 0);
+        Checks.draft(x, "4");
+        C.due("plan(0, 1), one", x.plan(0, 1), 1);
+        x.burn();
+        C.due("plan(0, 1), burnt", x.plan(0, 1), 0);
         C.due("count(7)", x.count(7), 0);
     }
 
@@ -298,6 +321,9 @@ public final class ForetoldTest {
         Checks.lay(x, "0");
         C.due("likeness(0), 2 in 9", x.likeness(0), 222);
         C.due("likeness(3)", x.likeness(3), 166);
+        AdjectiveCoupons y = C.told("noun 1;citizen 1");
+        Checks.lay(y, "0");
+        C.due("likeness(0), one word", y.likeness(0), 1000);
     }
 
     private static void author() {
@@ -331,7 +357,9 @@ public final class ForetoldTest {
         lefts(x, 6, 0, 1);
         x.trade(2, 3, 18, 0);
         lefts(x, 3, 0, 1);
-        x.trade(0, 3, 18, 0);
+        x.trade(0, 3, 17, 0);
+        lefts(x, 3, 0, 1);
+        x.trade(0, 3, 1, 0);
         lefts(x, 1, 3, 1);
         C.due("left(3)", x.left(3), OUTSIDE);
         C.due("left(-1)", x.left(-1), OUTSIDE);

@@ -99,6 +99,10 @@ public final class LineTest {
         price(x, "2525", 4);
         price(x, "1233", 5);
         price(x, "222", 2, 2, 1, 0);
+        AdjectiveCoupons y = C.told("plain 1;half 1;citizen 1;twice");
+        price(y, "0", 2);
+        price(y, "_0", 2);
+        price(y, "1010", 3);
     }
 
     private static void swell() {

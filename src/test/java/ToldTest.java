@@ -174,6 +174,10 @@ public final class ToldTest {
         C.due("fault() again", x.fault(), NONE);
         C.due("count(2) behind fault()", x.count(2), 0);
         C.due("count(11) behind fault()", x.count(11), 12);
+        x.erase();
+        Checks.write(x, "poet 1;poet 1;poet 1;noun 1");
+        C.due("fault(), three more", x.fault(), NONE);
+        C.due("fault(), three more, again", x.fault(), NONE);
     }
 
     private static void realm() {
@@ -204,6 +208,11 @@ public final class ToldTest {
         for (int i = 0; i < 12; i++) {
             C.due("realm(), realm: count(" + i + ")", x.count(i), i == 3 ? 9 : 0);
         }
+        Checks.write(x, "names;ration 4;swell;noun 1;change 0 0 0;realm");
+        C.due("realm(), realm last", x.realm(), 6);
+        for (int i = 0; i < 12; i++) {
+            C.due("realm(), realm last: count(" + i + ")", x.count(i), i == 3 ? 9 : 0);
+        }
         Checks.write(x, "noun 1;realm;plain 2");
         C.due("realm(), realm between", x.realm(), 3);
         C.due("realm(), realm between: words", x.count(0), 1);
@@ -215,6 +224,9 @@ public final class ToldTest {
         Checks.draft(x, "10", "0");
         x.say(0);
         x.say(0);
+        x.trade(1, 0, 18, 0);
+        Checks.lay(x, "1");
+        C.due("say(1), fined", x.say(1), 0);
         x.week();
         x.trade(0, 1, 1, 1);
         x.owe(0, 1, 9);
@@ -224,7 +236,7 @@ public final class ToldTest {
         C.due("count(5), fault", x.count(5), 1);
         C.due("count(6), fault", x.count(6), 1);
         C.due("count(7), fault", x.count(7), 2);
-        C.due("count(8), fault", x.count(8), 5);
+        C.due("count(8), fault", x.count(8), 7);
         x.write('n');
         x.write('1');
         C.due("realm()", x.realm(), 1);
@@ -235,6 +247,7 @@ public final class ToldTest {
         C.due("anew: back(0)", x.back(0), NOT);
         C.due("anew: halves", x.one(0, 1), 18);
         C.due("anew: loaves", x.one(0, 2), 10);
+        C.due("anew: fined", x.one(1, 3), 0);
         C.due("anew: worth", x.one(0, 4), 0);
         C.due("anew: words said", x.one(0, 5), 0);
         C.due("anew: debt", x.owes(0, 1), 0);

@@ -33,11 +33,15 @@ public final class WeeksTest {
         C.due("lover's, 60 at most", x.one(1, 1), 60);
         C.due("count(5)", x.count(5), 3);
         C.due("count(6)", x.count(6), 1);
+        AdjectiveCoupons z = C.told("citizen 1;lover 1;ration 2");
+        z.week();
+        C.due("nobody else has any", z.count(9), 12);
         AdjectiveCoupons y = C.told(REALM + ";ration 0");
         y.week();
         C.due("no ration", y.count(9), 0);
     }
 
+    /** More calls than are promised: no run of 512 comes to week 999. */
     private static void lastWeek() {
         AdjectiveCoupons x = new AdjectiveCoupons();
         for (int week = 1; week <= 999; week++) {
