@@ -26,16 +26,6 @@ final class Checks {
         }
     }
 
-    /** A new object to which the texts were told, one after the other. */
-    AdjectiveCoupons told(String... texts) {
-        AdjectiveCoupons x = new AdjectiveCoupons();
-        for (String text : texts) {
-            write(x, text);
-            due("clauses of '" + text + "'", x.realm(), text.chars().filter(c -> c == ';').count() + 1);
-        }
-        return x;
-    }
-
     /** The line anew: a digit a word, _ a hole. */
     static void lay(AdjectiveCoupons x, String row) {
         x.wipe();

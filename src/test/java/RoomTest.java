@@ -32,7 +32,7 @@ public final class RoomTest {
         for (int i = 0; i < 6; i++) {
             x.draft();
         }
-        for (int i = 0; i < 60; i++) {
+        for (int i = 0; i < 55; i++) {
             x.cheapest(i % 6);
             x.leftOut(i, 1);
             x.page(i, 1);
